@@ -47,7 +47,7 @@ public final class FarTypewriter {
     private static final int LONGEST = KEYS_START + MOST_KEYS + SUM_BYTES;
 
     private static final int TO_FAR = 0;
-    private static final int BY_ITSELF = 0;
+    private static final int TAKING = 0;
     private static final int LOSING = 1;
     private static final int STAYING = 2;
     private static final int BENDING = 3;
@@ -332,7 +332,7 @@ public final class FarTypewriter {
         if (how == BENDING) {
             return arg >= 0 && arg / 256 < carried.length;
         }
-        return how >= BY_ITSELF && how <= STAYING;
+        return how >= TAKING && how <= STAYING;
     }
 
     private static boolean isProgram(int p) {

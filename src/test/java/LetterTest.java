@@ -8,6 +8,7 @@ public final class LetterTest {
         diffOfForms();
         diffOfScrolls();
         diffTakesTheLeastShift();
+        diffCountsItsBytes();
         diffOfABlankScreen();
         diffFromSure();
         asking();
@@ -151,6 +152,22 @@ public final class LetterTest {
         z.write('b');
         z.tick();
         Check.due("0 is the least of several", z.letter(1, 0, 11), 0);
+    }
+
+    /** Unscrolled one row of many cells is told; scrolled by 1, two rows of one cell each. */
+    private static void diffCountsItsBytes() {
+        String[] above = {"  xx\rab\ra", "  xxx\rab\ra"};
+        for (int i = 0; i < above.length; i++) {
+            FarTypewriter x = told(above[i]);
+            x.wipe(0);
+            x.move(0, 0);
+            Check.print(x, "ab");
+            x.tick();
+            Check.due("shift for " + i, x.letter(1, 0, 11), i);
+            Check.due("bytes for " + i, x.letter(1, 0, 0), 10 + 1 + 12 + 2);
+            x.carry(1, 0, 0, 0);
+            Check.due("alike()", x.alike(), true);
+        }
     }
 
     private static void diffOfABlankScreen() {

@@ -119,7 +119,9 @@ public final class LineTest {
         x.key('a');
         x.tick();
         Check.due("byte 10 becomes itself", x.carry(0, 0, 3, 10 * 256), 0);
-        Check.due("TAKEN", x.count(TAKEN), 1);
+        x.tick();
+        Check.due("byte 0 becomes itself", x.carry(0, 0, 3, 0), 0);
+        Check.due("TAKEN", x.count(TAKEN), 2);
         Check.due("BENT", x.count(BENT), 0);
         Check.due("FORGED", x.count(FORGED), 0);
         Check.due("TOOK", x.state(1, 0), 1);

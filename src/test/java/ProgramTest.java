@@ -47,6 +47,11 @@ public final class ProgramTest {
         Check.due("key(min)", x.key(Integer.MIN_VALUE), -1);
         Check.due("key(max)", x.key(Integer.MAX_VALUE), -1);
         Check.due("KEYS", x.state(0, 0), keys);
+        for (int i = keys; i < 1000; i++) {
+            x.key('a');
+        }
+        Check.due("there are 1000", x.key('a'), -1);
+        Check.due("KEYS", x.state(0, 0), 1000);
     }
 
     private static void echo() {
@@ -76,7 +81,9 @@ public final class ProgramTest {
         typed(x, "\ra");
         Check.row(x, 1, 1, 0, ">a ");
         Check.due("mark of >", x.cell(1, 1, 0, 1), 1);
-        typed(x, "" + UP + DOWN);
+        typed(x, "" + UP);
+        Check.cursor(x, 1, 1, 2);
+        typed(x, "" + DOWN);
         Check.cursor(x, 1, 1, 2);
         typed(x, "\b");
         Check.row(x, 1, 1, 0, ">  ");

@@ -119,6 +119,8 @@ public final class ScreenTest {
         Check.due("the mark went along", x.cell(1, 4, 0, 1), 3);
         Check.due("BLANK comes", x.cell(1, 7, 0, 1), 0);
         Check.cursor(x, 1, 7, 1);
+        Check.due("scroll(1)", x.scroll(1), true);
+        Check.row(x, 1, 3, 0, "7");
         Check.due("scroll(8)", x.scroll(8), true);
         Check.row(x, 1, 0, 0, " ");
         Check.row(x, 1, 4, 0, " ");

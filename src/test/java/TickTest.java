@@ -4,6 +4,7 @@ public final class TickTest {
         nearSendsNewKeys();
         nearSendsAgain();
         nearOwesByAState();
+        nearOwesNothingForWhatIsSure();
         nearSendsWhenLongSilent();
         roamingOwes();
         farSendsNewStates();
@@ -12,6 +13,7 @@ public final class TickTest {
         farOwesNothingForWhatIsKnown();
         farKeepsAtMost32();
         statesGo();
+        statesAreLaidOnTheirOwnBase();
         statesOfTookAlone();
         rounds();
         asking();
@@ -63,6 +65,27 @@ public final class TickTest {
         Check.due("SURE", x.state(1, 1), 1);
         sends(x, 0, 1, 0, 0);
         Check.due("LAST", x.state(0, 4), 5);
+    }
+
+    /** The far end answers a LETTER that came twice, though the near end has its NEWEST for sure. */
+    private static void nearOwesNothingForWhatIsSure() {
+        FarTypewriter x = Check.opened(0, 1, 50);
+        x.key('a');
+        x.tick();
+        x.carry(0, 0, 2, 0);
+        x.tick();
+        x.carry(1, 0, 0, 0);
+        x.tick();
+        x.carry(0, 1, 0, 0);
+        Check.due("SURE", x.state(1, 1), 1);
+        x.carry(0, 0, 0, 0);
+        Check.due("the far end OWES", x.state(1, 5), 1);
+        Check.due("tick", x.tick(), 1);
+        Check.bytes(x, 1, 0, 83, 1, 0, 1, 0, 1, 0, 1, 0, 1, 0);
+        x.carry(1, 0, 2, 0);
+        Check.due("the near end OWES nothing", x.state(0, 5), 0);
+        Check.due("near keeps", x.state(0, 3), 1);
+        Check.due("SURE told", x.state(0, 7), 1);
     }
 
     private static void nearSendsWhenLongSilent() {
@@ -214,6 +237,22 @@ public final class TickTest {
         Check.due("kept(0, 0)", x.kept(0, 0), 2);
         Check.due("kept(0, 1)", x.kept(0, 1), 5);
         Check.due("SURE told", x.state(0, 7), 2);
+        Check.due("alike()", x.alike(), true);
+    }
+
+    private static void statesAreLaidOnTheirOwnBase() {
+        FarTypewriter x = Check.opened(0, 1, 50);
+        Check.print(x, "ab");
+        x.tick();
+        x.carry(1, 0, 2, 0);
+        x.carry(1, 0, 0, 0);
+        Check.due("the same STATE is not kept twice", x.state(0, 3), 2);
+        x.wipe(0);
+        x.write(13);
+        x.tick();
+        Check.due("from STATE 0", x.letter(1, 0, 4), 0);
+        x.carry(1, 0, 0, 0);
+        Check.row(x, 0, 0, 0, "   ");
         Check.due("alike()", x.alike(), true);
     }
 
