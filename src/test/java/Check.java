@@ -1,11 +1,25 @@
+import java.util.function.BooleanSupplier;
+import java.util.function.IntSupplier;
+import java.util.function.IntUnaryOperator;
+
 /** Compares answers with those that are due; a test ends with finish(). */
 final class Check {
     private static int wrong = 0;
+    private static String about = "";
+
+    /** What the checks from now on are about; it stands ahead of each that fails. */
+    static void about(String words) {
+        about = words;
+    }
+
+    private static void fail(String what) {
+        wrong++;
+        System.out.println(about + what);
+    }
 
     static void due(String what, long got, long want) {
         if (got != want) {
-            wrong++;
-            System.out.println(what + " answered " + got + ", due is " + want);
+            fail(what + " answered " + got + ", due is " + want);
         }
     }
 
@@ -20,9 +34,29 @@ final class Check {
             got.append((char) x.cell(end, row, c, 0));
         }
         if (!got.toString().equals(want)) {
-            wrong++;
-            System.out.println("row " + row + " of end " + end + " is [" + got + "], due is [" + want + "]");
+            fail("row " + row + " of end " + end + " is [" + got + "], due is [" + want + "]");
         }
+    }
+
+    /** Several answers in a row: what is asked, from 0 on. */
+    static void each(String call, IntUnaryOperator ask, int... want) {
+        for (int i = 0; i < want.length; i++) {
+            due(call + " " + i, ask.applyAsInt(i), want[i]);
+        }
+    }
+
+    /** A call that is refused leaves all that can be asked as it was. */
+    static void refused(FarTypewriter x, String call, IntSupplier made, int want) {
+        String before = Whole.of(x);
+        due(call, made.getAsInt(), want);
+        String after = Whole.of(x);
+        if (!after.equals(before)) {
+            fail(call + " was refused, but changed " + before + " to " + after);
+        }
+    }
+
+    static void refused(FarTypewriter x, String call, BooleanSupplier made) {
+        refused(x, call, () -> made.getAsBoolean() ? 1 : 0, 0);
     }
 
     static void cursor(FarTypewriter x, int end, int row, int column) {
