@@ -33,16 +33,6 @@ final class LetterBoundaries {
         Doc.promise(20, "NONE when there is none such.", LetterBoundaries::noSuchByte);
     }
 
-    /** What is drawn is told, and told to be there: SURE is NEWEST's, the LINES are empty. */
-    private static FarTypewriter told(String text) {
-        FarTypewriter x = Check.opened(0, 1, 1);
-        Check.print(x, text);
-        Check.rounds(x, 3);
-        Check.due("SURE", x.state(1, 1), 1);
-        Check.due("LINE 1", x.count(15), 0);
-        return x;
-    }
-
     /** The bytes of the DIFF from STATE 1 to 2, with the cursor at 0 0. */
     private static void diff(FarTypewriter x, int... want) {
         int[] all = new int[10 + want.length];
@@ -181,7 +171,7 @@ final class LetterBoundaries {
     private static void everyShift() {
         String[] top = {"zero ", "one ", "two ", "three ", "four ", "five ", "six ", "seven ", "     "};
         for (int k = 0; k <= 8; k++) {
-            FarTypewriter x = told("zero\rone\rtwo\rthree\rfour\rfive\rsix\rseven");
+            FarTypewriter x = LetterTest.told("zero\rone\rtwo\rthree\rfour\rfive\rsix\rseven");
             x.scroll(k);
             diff(x, k);
             Check.row(x, 0, 0, 0, top[k]);
@@ -189,22 +179,22 @@ final class LetterBoundaries {
     }
 
     private static void firstAndLastRow() {
-        FarTypewriter x = told("zero\rone\rtwo\rthree\rfour\rfive\rsix\rseven");
+        FarTypewriter x = LetterTest.told("zero\rone\rtwo\rthree\rfour\rfive\rsix\rseven");
         put(x, 7, 0, "S");
         put(x, 0, 0, "Z");
         diff(x, 0, 0, 1, 0, 0, 'Z', 0, 7, 1, 0, 0, 'S', 0);
-        FarTypewriter y = told("zero\rone\rtwo\rthree\rfour\rfive\rsix\rseven");
+        FarTypewriter y = LetterTest.told("zero\rone\rtwo\rthree\rfour\rfive\rsix\rseven");
         y.scroll(1);
         put(y, 7, 0, "8");
         diff(y, 1, 7, 1, 0, 0, '8', 0);
     }
 
     private static void firstAndLastColumn() {
-        FarTypewriter x = told("a");
+        FarTypewriter x = LetterTest.told("a");
         put(x, 2, 0, "p");
         put(x, 3, 23, "q");
         diff(x, 0, 2, 1, 0, 0, 'p', 0, 3, 1, 23, 23, 'q', 0);
-        FarTypewriter y = told("a" + " ".repeat(10) + "-");
+        FarTypewriter y = LetterTest.told("a" + " ".repeat(10) + "-");
         put(y, 0, 0, "b");
         put(y, 0, 23, "c");
         int[] want = new int[1 + 4 + 48];
@@ -216,29 +206,29 @@ final class LetterBoundaries {
     }
 
     private static void alikeCells() {
-        FarTypewriter x = told("a");
+        FarTypewriter x = LetterTest.told("a");
         x.pen(3);
         put(x, 1, 5, "p");
         put(x, 2, 5, "qq");
         put(x, 3, 0, "r".repeat(24));
         diff(x, 0, 1, 1, 5, 5, 'p', 3, 2, 1, 5, 6, 'q', 3, 3, 1, 0, 23, 'r', 3);
-        FarTypewriter y = told("a x");
+        FarTypewriter y = LetterTest.told("a x");
         put(y, 0, 1, "xxx");
         diff(y, 0, 0, 1, 1, 3, 'x', 0);
-        FarTypewriter z = told("abc");
+        FarTypewriter z = LetterTest.told("abc");
         z.wipe(0);
         put(z, 0, 0, "a");
         diff(z, 0, 0, 1, 1, 2, 32, 0);
     }
 
     private static void almostAlikeCells() {
-        FarTypewriter x = told("a");
+        FarTypewriter x = LetterTest.told("a");
         put(x, 1, 5, "qqp");
         put(x, 2, 5, "pqq");
         put(x, 3, 5, "qpq");
         diff(x, 0, 1, 0, 5, 7, 'q', 0, 'q', 0, 'p', 0, 2, 0, 5, 7, 'p', 0, 'q', 0, 'q', 0,
             3, 0, 5, 7, 'q', 0, 'p', 0, 'q', 0);
-        FarTypewriter y = told("a");
+        FarTypewriter y = LetterTest.told("a");
         put(y, 1, 5, "q");
         y.pen(1);
         put(y, 1, 6, "q");
@@ -247,7 +237,7 @@ final class LetterBoundaries {
 
     /** Unscrolled one row of 5 CELLS is told (14 bytes); scrolled by 1, two rows of one CELL (12). */
     private static void fewerBytes() {
-        FarTypewriter x = told("  xxx\rab\ra");
+        FarTypewriter x = LetterTest.told("  xxx\rab\ra");
         x.wipe(0);
         put(x, 0, 0, "ab");
         diff(x, 1, 1, 1, 1, 1, 'b', 0, 2, 1, 0, 0, 'a', 0);
@@ -256,22 +246,22 @@ final class LetterBoundaries {
 
     /** Unscrolled two rows of one CELL are told (12 bytes); scrolled by 1, one row of 3 CELLS (10). */
     private static void fewerBytesFarFromTheFirstColumn() {
-        FarTypewriter x = told("     abx\r     aby");
+        FarTypewriter x = LetterTest.told("     abx\r     aby");
         put(x, 0, 7, "y");
         put(x, 1, 7, "z");
         diff(x, 1, 1, 0, 5, 7, 'a', 0, 'b', 0, 'z', 0);
     }
 
     private static void asFewBytes() {
-        FarTypewriter x = told("  xx\rab\ra");
+        FarTypewriter x = LetterTest.told("  xx\rab\ra");
         x.wipe(0);
         put(x, 0, 0, "ab");
         diff(x, 0, 0, 0, 0, 3, 'a', 0, 'b', 0, 32, 0, 32, 0);
-        FarTypewriter w = told("abcx\rabcd");
+        FarTypewriter w = LetterTest.told("abcx\rabcd");
         put(w, 0, 3, "d");
         put(w, 1, 3, "e");
         diff(w, 0, 0, 1, 3, 3, 'd', 0, 1, 1, 3, 3, 'e', 0);
-        FarTypewriter y = told("b");
+        FarTypewriter y = LetterTest.told("b");
         y.wipe(0);
         diff(y, 1);
         FarTypewriter z = Check.opened(0, 1, 1);

@@ -111,7 +111,8 @@ public final class LetterTest {
         Check.due("alike()", x.alike(), true);
     }
 
-    private static FarTypewriter told(String text) {
+    /** What is drawn is told, and told to be there: SURE is NEWEST's, LINE 1 is empty. */
+    static FarTypewriter told(String text) {
         FarTypewriter x = Check.opened(0, 1, 1);
         Check.print(x, text);
         Check.rounds(x, 3);

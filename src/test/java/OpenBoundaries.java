@@ -236,6 +236,11 @@ final class OpenBoundaries {
         }
         Check.due("guess(59, 0)", x.guess(59, 0), 60);
         Check.due("guess(60, 0)", x.guess(60, 0), -2);
+        FarTypewriter settled = Check.opened(0, 1, 1);
+        Check.type(settled, "ab");
+        Check.rounds(settled, 2);
+        Check.due("GUESSES", settled.count(11), 0);
+        Check.due("of one that went", settled.guess(0, 0), -2);
     }
 
     private static void countsSinceOpen() {

@@ -202,6 +202,35 @@ final class TakingBoundaries {
         y.carry(1, 0, 0, 0);
         Check.due("for another ADDRESS it is LOST", y.count(LOST), 1);
         Check.due("and does not HANG", y.count(HANGING), 0);
+        hangingByTheStateThatWentLast();
+    }
+
+    /** Both LETTERS of LINE 1 tell STATE 1, which the near end has; the first SURE 0, the second SURE 1. */
+    static FarTypewriter twoLettersOfState1() {
+        FarTypewriter x = Check.opened(2, 1, 50);
+        x.key('a');
+        x.tick();
+        x.carry(0, 0, 2, 0);
+        x.tick();
+        x.carry(1, 0, 2, 0);
+        x.tick();
+        x.carry(0, 1, 0, 0);
+        x.carry(0, 0, 0, 0);
+        x.tick();
+        Check.each("SURE of LETTER", k -> x.letter(1, k, 4), 0, 1, -1);
+        Check.each("STATE of LETTER", k -> x.letter(1, k, 6), 1, 1, -1);
+        Check.each("kept(0, i), i", i -> x.kept(0, i), 0, 1, -1);
+        return x;
+    }
+
+    /** STATE 0 goes without another one that comes; the LETTER that was taken from it comes again. */
+    private static void hangingByTheStateThatWentLast() {
+        FarTypewriter x = twoLettersOfState1();
+        x.carry(1, 0, 2, 0);
+        Check.due("STATE 0 is KEPT", x.count(HANGING), 0);
+        x.carry(1, 1, 0, 0);
+        x.carry(1, 0, 0, 0);
+        Check.due("STATE 0 is KEPT no more", x.count(HANGING), 1);
     }
 
     private static void noKeyTwice() {
@@ -300,23 +329,10 @@ final class TakingBoundaries {
         FarTypewriter y = withALetter(1);
         y.carry(1, 0, 0, 0);
         Check.each("none is below 0: kept(0, i), i", i -> y.kept(0, i), 0, 1, -1);
-        sureToldIsNewest();
-    }
-
-    private static void sureToldIsNewest() {
-        FarTypewriter x = Check.opened(2, 1, 50);
-        x.key('a');
-        x.tick();
-        x.carry(0, 0, 2, 0);
-        x.tick();
-        x.carry(1, 0, 0, 0);
-        x.tick();
-        x.carry(0, 1, 0, 0);
-        x.carry(0, 0, 0, 0);
-        x.tick();
-        x.carry(1, 0, 0, 0);
-        Check.due("SURE told", x.state(0, 7), 1);
-        Check.each("kept(0, i), i", i -> x.kept(0, i), 1, -1);
+        FarTypewriter z = twoLettersOfState1();
+        z.carry(1, 1, 0, 0);
+        Check.due("SURE told, NEWEST itself", z.state(0, 7), 1);
+        Check.each("kept(0, i), i", i -> z.kept(0, i), 1, -1);
     }
 
     private static void knownOnlyRises() {
@@ -393,8 +409,9 @@ final class TakingBoundaries {
         x.tick();
         x.carry(1, 0, 0, 0);
         Check.due("STATES kept", x.state(0, 3), 32);
-        Check.due("kept(0, 0)", x.kept(0, 0), 1);
-        Check.due("kept(0, 31)", x.kept(0, 31), 32);
+        for (int i = 0; i < 32; i++) {
+            Check.due("kept(0, " + i + ")", x.kept(0, i), i + 1);
+        }
         Check.due("alike()", x.alike(), true);
     }
 

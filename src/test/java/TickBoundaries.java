@@ -135,7 +135,9 @@ final class TickBoundaries {
         Check.due("the SCREEN of now is sent", x.tick(), 1);
         Check.due("NEWEST", x.state(1, 2), 32);
         Check.due("STATES kept", x.state(1, 3), 32);
-        Check.due("kept(1, 31)", x.kept(1, 31), 32);
+        for (int i = 0; i < 32; i++) {
+            Check.due("kept(1, " + i + ")", x.kept(1, i), i + 1);
+        }
         x.carry(1, x.count(15) - 1, 0, 0);
         Check.due("alike()", x.alike(), true);
     }
@@ -158,35 +160,53 @@ final class TickBoundaries {
         Check.due("alike()", x.alike(), false);
     }
 
-    private static void farWaitsForFrame() {
-        for (int frame : new int[] {1, 2, 20}) {
-            FarTypewriter x = Check.opened(0, frame, 50);
+    /** Something that the near end (0) or the far one (1) has to send. */
+    private static void change(FarTypewriter x, int end) {
+        if (end == 0) {
+            x.key('a');
+        } else {
             x.write('a');
-            waits(x, frame - 1, 1);
-            Check.due("LAST", x.state(1, 4), frame);
-            silence(x, frame);
-            x.write('b');
-            Check.due("at once, FRAME is over", x.tick(), 1);
-            x.write('c');
-            waits(x, frame - 1, 1);
-            Check.due("LAST", x.state(1, 4), 3 * frame + 1);
         }
-        FarTypewriter y = Check.opened(0, 20, 50);
-        silence(y, 30);
-        y.write('a');
-        Check.due("the first one, long behind FRAME", y.tick(), 1);
     }
 
-    private static void farWaitsForAgain() {
+    private static void waitsForFrame(int end) {
+        for (int frame : new int[] {1, 2, 20}) {
+            FarTypewriter x = Check.opened(0, frame, 50);
+            change(x, end);
+            waits(x, frame - 1, 1);
+            Check.due("LAST", x.state(end, 4), frame);
+            silence(x, frame);
+            change(x, end);
+            Check.due("at once, FRAME is over", x.tick(), 1);
+            change(x, end);
+            waits(x, frame - 1, 1);
+            Check.due("LAST", x.state(end, 4), 3 * frame + 1);
+            Check.due("LAST of the other end", x.state(1 - end, 4), 0);
+        }
+        FarTypewriter x = Check.opened(0, 20, 50);
+        silence(x, 30);
+        change(x, end);
+        Check.due("the first one, long behind FRAME", x.tick(), 1);
+    }
+
+    private static void waitsForAgain(int end) {
         int[][] settings = {{1, 1}, {2, 5}, {20, 20}, {1, 50}};
         for (int[] s : settings) {
             FarTypewriter x = Check.opened(0, s[0], s[1]);
-            x.write('a');
+            change(x, end);
             waits(x, s[0] - 1, 1);
             waits(x, s[1] - 1, 1);
             waits(x, s[1] - 1, 1);
-            Check.due("LAST", x.state(1, 4), s[0] + 2 * s[1]);
+            Check.due("LAST", x.state(end, 4), s[0] + 2 * s[1]);
         }
+    }
+
+    private static void farWaitsForFrame() {
+        waitsForFrame(1);
+    }
+
+    private static void farWaitsForAgain() {
+        waitsForAgain(1);
         FarTypewriter x = Check.opened(0, 1, 5);
         x.write('a');
         x.round();
@@ -240,30 +260,11 @@ final class TickBoundaries {
     }
 
     private static void nearWaitsForFrame() {
-        for (int frame : new int[] {1, 2, 20}) {
-            FarTypewriter x = Check.opened(0, frame, 50);
-            x.key('a');
-            waits(x, frame - 1, 1);
-            Check.due("LAST", x.state(0, 4), frame);
-            silence(x, frame);
-            x.key('b');
-            Check.due("at once, FRAME is over", x.tick(), 1);
-            x.key('c');
-            waits(x, frame - 1, 1);
-            Check.due("LAST", x.state(0, 4), 3 * frame + 1);
-        }
+        waitsForFrame(0);
     }
 
     private static void nearWaitsForAgain() {
-        int[][] settings = {{1, 1}, {2, 5}, {20, 20}, {1, 50}};
-        for (int[] s : settings) {
-            FarTypewriter x = Check.opened(0, s[0], s[1]);
-            x.key('a');
-            waits(x, s[0] - 1, 1);
-            waits(x, s[1] - 1, 1);
-            waits(x, s[1] - 1, 1);
-            Check.due("LAST", x.state(0, 4), s[0] + 2 * s[1]);
-        }
+        waitsForAgain(0);
         FarTypewriter x = Check.opened(0, 1, 5);
         x.key('a');
         Check.rounds(x, 3);
@@ -306,20 +307,14 @@ final class TickBoundaries {
     }
 
     private static void sureIsNewest() {
-        FarTypewriter x = Check.opened(2, 1, 50);
-        x.key('a');
-        x.tick();
-        x.carry(0, 0, 2, 0);
-        x.tick();
-        x.carry(1, 0, 0, 0);
-        x.tick();
-        x.carry(0, 1, 0, 0);
-        x.carry(0, 0, 0, 0);
-        x.tick();
-        Check.due("it tells SURE 1", x.letter(1, 0, 4), 1);
-        x.carry(1, 0, 0, 0);
-        Check.due("TAKEN", x.count(5), 5);
+        FarTypewriter x = TakingBoundaries.twoLettersOfState1();
+        Check.due("OWES nothing yet", x.state(0, 5), 0);
+        int taken = x.count(5);
+        x.carry(1, 1, 0, 0);
+        Check.due("TAKEN", x.count(5), taken + 1);
         Check.due("SURE 1, NEWEST 1", x.state(0, 5), 0);
+        x.carry(1, 0, 0, 0);
+        Check.due("SURE 0 HANGS", x.state(0, 5), 1);
     }
 
     private static void lostByItsAddress() {
