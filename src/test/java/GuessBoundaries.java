@@ -225,6 +225,22 @@ final class GuessBoundaries {
         x.carry(1, 0, 0, 0);
         settled(x, 2, 0, 0);
         nothingIsSettledByTook0();
+        noneIsLeftToSettle();
+    }
+
+    /** All GUESSES went; the STATES behind that settle none. */
+    private static void noneIsLeftToSettle() {
+        FarTypewriter x = Check.opened(0, 1, 50);
+        Check.type(x, "abc");
+        echo(x);
+        settled(x, 3, 0, 0);
+        for (int number = 2; number <= 4; number++) {
+            x.write('d');
+            x.round();
+            Check.due("near NEWEST", x.state(0, 2), number);
+            settled(x, 3, 0, 0);
+            counts(x, 0, 1);
+        }
     }
 
     private static void nothingIsSettledByTook0() {

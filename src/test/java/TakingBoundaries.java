@@ -71,7 +71,24 @@ final class TakingBoundaries {
         Check.due("there is room again", x.letter(0, 39, 6), 42);
         Check.due("behind the one before", x.letter(0, 38, 6), 40);
         Check.due("LOST", x.count(LOST), 2);
+        fullAgain(x);
         a41stLetterOfLine1();
+    }
+
+    /** The LINE was full; five LETTERS go and five come: their KEYS tell them apart. */
+    private static void fullAgain(FarTypewriter x) {
+        for (int i = 0; i < 5; i++) {
+            Check.due("carry(0, 10, 1, 0)", x.carry(0, 10, 1, 0), 39 - i);
+        }
+        for (int i = 0; i < 5; i++) {
+            x.key('e');
+            x.tick();
+        }
+        Check.due("LINE 0", x.count(14), 40);
+        for (int k = 0; k < 40; k++) {
+            int keys = k < 10 ? k + 2 : k < 34 ? k + 7 : k + 8;
+            Check.due("KEYS of LETTER " + k, x.letter(0, k, 6), keys);
+        }
     }
 
     private static void a41stLetterOfLine1() {

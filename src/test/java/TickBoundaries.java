@@ -140,6 +140,36 @@ final class TickBoundaries {
         }
         x.carry(1, x.count(15) - 1, 0, 0);
         Check.due("alike()", x.alike(), true);
+        fullOfStatesAgain();
+    }
+
+    /** The far end kept 32 STATES, all but the last go, and once more of a few; then it keeps 32 again. */
+    private static void fullOfStatesAgain() {
+        FarTypewriter x = with32States();
+        tellNewest(x);
+        Check.each("kept(1, i), i", i -> x.kept(1, i), 31, -1);
+        for (int i = 0; i < 3; i++) {
+            x.write('b');
+            x.tick();
+        }
+        tellNewest(x);
+        Check.each("kept(1, i), i", i -> x.kept(1, i), 34, -1);
+        for (int i = 1; i <= 33; i++) {
+            x.write('c');
+            x.tick();
+        }
+        Check.due("STATES kept", x.state(1, 3), 32);
+        for (int i = 0; i < 32; i++) {
+            Check.due("kept(1, " + i + ")", x.kept(1, i), 34 + i);
+        }
+    }
+
+    /** The near end takes the newest LETTER, and the far end its answer. */
+    private static void tellNewest(FarTypewriter x) {
+        x.carry(1, x.count(15) - 1, 0, 0);
+        x.tick();
+        x.carry(0, x.count(14) - 1, 0, 0);
+        Check.due("SURE", x.state(1, 1), x.state(1, 2));
     }
 
     /** With 32 STATES the far end goes on, but its LETTERS tell NEWEST alone. */
